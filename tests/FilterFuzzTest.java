@@ -29,6 +29,8 @@ public final class FilterFuzzTest {
 
     private static final String[] KINDS = {"ether", "ip", "ip6", "arp", "tcp", "udp", "icmp"};
     private static final StringBuilder text = new StringBuilder();
+    // The places where the words of the text begin.
+    private static final List<Integer> starts = new ArrayList<>();
     private static Set<String> asked = new LinkedHashSet<>();
 
     private static int pick(int below) {
@@ -54,6 +56,7 @@ public final class FilterFuzzTest {
         if (!close || signs || pick(4) == 0) {
             text.append(pick(8) == 0 ? "\n" : " ");
         }
+        starts.add(text.length());
         text.append(w);
     }
 
@@ -436,6 +439,7 @@ public final class FilterFuzzTest {
                 due("packet", x.packet(), p);
             }
             text.setLength(0);
+            starts.clear();
             asked = new LinkedHashSet<>();
             Says says = filter(3);
             if (text.length() > 2000) {
@@ -461,9 +465,38 @@ public final class FilterFuzzTest {
                 due("emulate of " + p, x.emulate(p), want);
                 due("its trap", x.ended(0), 0);
             }
+            changed(x);
+            changed(x);
         }
         System.out.println("filters by chance: " + matched + " matches, " + tooLong + " too long");
         System.exit(wrong == 0 ? 0 : 1);
+    }
+
+    private static final String[] OTHERS = {"ip", "tcp", "ether", "proto", "src", "dst", "host", "net", "port", "portrange",
+        "less", "greater", "not", "and", "or", "len", "(", ")", "{", "}", "[", "]", ":", "/", "-", "+", "*", "%", "&", "|",
+        "^", "<<", ">>", "=", "!=", "<", "<=", ">", ">=", "1", "0x10", "1.2.3.4", "..", "ipv6", "99999999999"};
+
+    /** What is ahead of a change can stand there, so that the text can't be WRONG ahead of it. */
+    private static void changed(FilterForge x) {
+        String whole = text.toString();
+        int start = starts.get(pick(starts.size()));
+        String ahead = whole.substring(0, start);
+        String behind = whole.substring(start);
+        due("cut at " + start, compile(x, ahead, -1 - start), -1 - start);
+        due("no word at " + start, compile(x, ahead + "@" + behind, 0), -1 - start);
+        String other = OTHERS[pick(OTHERS.length)];
+        int answer = compile(x, ahead + " " + other + " " + behind, -1 - start);
+        due(other + " put in at " + start, answer > 0 || answer == -3000 || answer <= -1 - start ? 1 : answer, 1);
+    }
+
+    /** What is due for any good answer, too. */
+    private static int compile(FilterForge x, String changed, int good) {
+        if (changed.length() > 2000) {
+            return good;
+        }
+        feed(x, changed.chars().toArray(), changed.length());
+        int answer = x.compile();
+        return answer > 0 ? good : answer;
     }
 
     private static int judge(Says says, int[] packet) {
