@@ -475,7 +475,7 @@ public final class FilterForge {
         }
 
         private static boolean inWord(int sign) {
-            return sign >= 'a' && sign <= 'z' || isDigit(sign) || sign == '.';
+            return sign >= 'a' && sign <= 'z' || sign >= '0' && sign <= '9' || sign == '.';
         }
 
         private static boolean isDigit(int sign) {
@@ -716,7 +716,7 @@ public final class FilterForge {
             }
             if (isWord("host")) {
                 next();
-                made.testHost(side, takeAddress(), yes, no);
+                made.testAddress(side, takeAddress(), false, 0, yes, no);
             } else if (isWord("net")) {
                 readNet(side, yes, no);
             } else if (isWord("port")) {
@@ -740,12 +740,13 @@ public final class FilterForge {
             int a = takeAddress();
             take('/');
             long size = number();
-            if (size < 0 || size > 32 || (a & ~Filter.highest((int) size)) != 0) {
+            int mask = size <= 0 ? 0 : size >= 32 ? -1 : -1 << (32 - (int) size);
+            if (size < 0 || size > 32 || (a & ~mask) != 0) {
                 fail();
                 return;
             }
             next();
-            made.testNet(side, a, Filter.highest((int) size), yes, no);
+            made.testAddress(side, a, true, mask, yes, no);
         }
 
         private void readLength(int yes, int no) {
@@ -959,10 +960,6 @@ public final class FilterForge {
             labelCount = 2;
         }
 
-        private static int highest(int size) {
-            return size <= 0 ? 0 : -1 << (32 - size);
-        }
-
         private int newLabel() {
             if (labelCount < MOST_LABELS) {
                 labelCount++;
@@ -1059,7 +1056,8 @@ public final class FilterForge {
         private void testRead(int place, int size, int number, int yesLabel, int noLabel) {
             int start = itemCount;
             item(READ_AT, size, place);
-            testNumber(start, EQUAL, number, yesLabel, noLabel);
+            item(NUMBER, 1, number);
+            test(start, start + 1, start + 2, EQUAL, yesLabel, noLabel);
         }
 
         private void testType(int number, int yesLabel, int noLabel) {
@@ -1124,38 +1122,27 @@ public final class FilterForge {
             }
         }
 
-        private void testHost(int side, int address, int yesLabel, int noLabel) {
+        /** Of a host (not masked) all bits of the address count. */
+        private void testAddress(int side, int address, boolean masked, int mask, int yesLabel, int noLabel) {
             testType(2048, NEXT, noLabel);
             int other = side == EITHER ? newLabel() : noLabel;
             if (side != TARGET) {
-                testRead(26, 4, address, yesLabel, other);
+                testAddressAt(26, address, masked, mask, yesLabel, other);
             }
             if (side == EITHER) {
                 putLabelHere(other);
             }
             if (side != SOURCE) {
-                testRead(30, 4, address, yesLabel, noLabel);
+                testAddressAt(30, address, masked, mask, yesLabel, noLabel);
             }
         }
 
-        private void testNet(int side, int address, int mask, int yesLabel, int noLabel) {
-            testType(2048, NEXT, noLabel);
-            int other = side == EITHER ? newLabel() : noLabel;
-            if (side != TARGET) {
-                testMasked(26, address, mask, yesLabel, other);
-            }
-            if (side == EITHER) {
-                putLabelHere(other);
-            }
-            if (side != SOURCE) {
-                testMasked(30, address, mask, yesLabel, noLabel);
-            }
-        }
-
-        private void testMasked(int place, int address, int mask, int yesLabel, int noLabel) {
+        private void testAddressAt(int place, int address, boolean masked, int mask, int yesLabel, int noLabel) {
             int start = itemCount;
             item(READ_AT, 4, place);
-            item(WITH_NUMBER, AND, mask);
+            if (masked) {
+                item(WITH_NUMBER, AND, mask);
+            }
             testNumber(start, EQUAL, address, yesLabel, noLabel);
         }
 
@@ -1963,8 +1950,8 @@ public final class FilterForge {
                 case STORE: keepInMemory(machine, first + storeNumber(word), middlePart(word), second); break;
                 case OP_IMM: keep(machine, target, made(middlePart(word), shiftHigh(word), first, number)); break;
                 case OP: keep(machine, target, made(middlePart(word), highPart(word), first, second)); break;
-                case OP_IMM_32: keep(machine, target, made32(middlePart(word), shiftHigh(word), (int) first, (int) number)); break;
-                case OP_32: keep(machine, target, made32(middlePart(word), highPart(word), (int) first, (int) second)); break;
+                case OP_IMM_32: keep(machine, target, made32(middlePart(word), shiftHigh(word), first, number)); break;
+                case OP_32: keep(machine, target, made32(middlePart(word), highPart(word), first, second)); break;
                 default: machine.over = true; break;
             }
         }
@@ -2058,13 +2045,14 @@ public final class FilterForge {
             return y == 0 ? -1 : quotient(x, y);
         }
 
-        private static long made32(int middle, int high, int x, int y) {
+        private static long made32(int middle, int high, long first, long second) {
             if (high == 1) {
-                return (int) made(middle, high, x & (middle == 0 ? -1L : LOW32), y & (middle == 0 ? -1L : LOW32));
+                return (int) made(middle, high, first & LOW32, second & LOW32);
             }
-            int by = y & 31;
+            int x = (int) first;
+            int by = (int) second & 31;
             switch (middle) {
-                case 0: return high == 32 ? x - y : x + y;
+                case 0: return high == 32 ? x - (int) second : x + (int) second;
                 case 1: return x << by;
                 default: return high == 32 ? x >> by : x >>> by;
             }
