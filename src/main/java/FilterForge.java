@@ -1,5 +1,6 @@
 public final class FilterForge {
     private static final long LOW32 = 0xFFFFFFFFL;
+    private static final long SIGN = 1L << 63;
     private static final int STACK_FIRST = 131072;
     private static final int STACK_BEHIND = 131136;
     private static final int STACK_SIZE = 64;
@@ -205,7 +206,7 @@ public final class FilterForge {
     }
 
     private static boolean below(long x, long y) {
-        return x + Long.MIN_VALUE < y + Long.MIN_VALUE;
+        return x + SIGN < y + SIGN;
     }
 
     private static long lesser(long x, long y) {
@@ -221,7 +222,7 @@ public final class FilterForge {
         if (y == 0) {
             return 0;
         }
-        boolean less = x + Long.MIN_VALUE < y + Long.MIN_VALUE;
+        boolean less = x + SIGN < y + SIGN;
         if (y < 0) {
             return less ? 0 : 1;
         }
@@ -230,7 +231,7 @@ public final class FilterForge {
         }
         long close = ((x >>> 1) / y) << 1;
         long rest = x - close * y;
-        return rest + Long.MIN_VALUE < y + Long.MIN_VALUE ? close : close + 1;
+        return rest + SIGN < y + SIGN ? close : close + 1;
     }
 
     /** x op y, of 64 bits or (not wide) of 32, as the PROGRAM's machine has it. */
