@@ -39,20 +39,20 @@ public final class FilterForge {
 
     private final Tape tape = new Tape();
     private final Packets packets = new Packets();
-    private final Reader reader = new Reader();
-    private final Coder coder = new Coder();
-    private final Machine machine = new Machine();
+    private final Machine machine = new Machine(packets);
     private final ObjectCode object = new ObjectCode();
-    private final Translator translator = new Translator();
-    private final Inspector inspector = new Inspector();
-    // A second one, so that translate() leaves what known() tells.
-    private final Inspector gatekeeper = new Inspector();
     // compile() works in the spare ones, so that a WRONG filter leaves the former ones.
     private Filter filter = new Filter();
     private Filter spareFilter = new Filter();
     private Program program = new Program();
     private Program spareProgram = new Program();
     private boolean filterRead;
+    private final Reader reader = new Reader(tape, spareFilter);
+    private final Coder coder = new Coder(spareFilter, spareProgram);
+    private final Translator translator = new Translator(program, object);
+    private final Inspector inspector = new Inspector(program);
+    // A second one, so that translate() leaves what known() tells.
+    private final Inspector gatekeeper = new Inspector(program);
 
     public FilterForge() {
     }
@@ -88,7 +88,7 @@ public final class FilterForge {
     }
 
     public int compile() {
-        reader.begin(tape, spareFilter);
+        reader.begin(spareFilter);
         reader.readFilter(Filter.MATCH_LABEL, Filter.NO_LABEL, 0);
         int wrong = reader.wrongPlace();
         tape.length = 0;
@@ -136,14 +136,14 @@ public final class FilterForge {
         if (program.length == 0 || packets.lengthOf(p) < 0) {
             return 0;
         }
-        return program.perform(machine, packets, p);
+        return program.perform(machine, p, packets.lengthOf(p));
     }
 
     public int translate() {
         if (gatekeeper.look(program) != 0) {
             return -1;
         }
-        return translator.turn(program, object);
+        return translator.turn(program);
     }
 
     public int raw() {
@@ -160,7 +160,7 @@ public final class FilterForge {
         if (object.length == 0 || packets.lengthOf(p) < 0) {
             return 0;
         }
-        return object.perform(machine, packets, p);
+        return object.perform(machine, p, packets.lengthOf(p));
     }
 
     public int ended(int what) {
@@ -400,18 +400,19 @@ public final class FilterForge {
         private static final int DEEPEST_SUM = 2;
         private static final int MOST_MINUS = 8;
 
-        private Tape text;
+        private final Tape text;
         private Filter made;
         private int kind;
         private int first;
         private int behind;
         private int wrong;
 
-        private Reader() {
+        private Reader(Tape tape, Filter filter) {
+            text = tape;
+            made = filter;
         }
 
-        private void begin(Tape tape, Filter filter) {
-            text = tape;
+        private void begin(Filter filter) {
             made = filter;
             made.clear();
             behind = 0;
@@ -969,12 +970,16 @@ public final class FilterForge {
         }
 
         private void putLabelHere(int label) {
-            labels[label] = blockCount;
+            if (label >= 0 && label < labelCount) {
+                labels[label] = blockCount;
+            }
         }
 
         /** A label goes where another one goes, which was made ahead of it. */
         private void joinLabel(int label, int other) {
-            labels[label] = -1 - other;
+            if (label >= 0 && label < labelCount) {
+                labels[label] = -1 - other;
+            }
         }
 
         private void item(int kind, int how, int number) {
@@ -1355,7 +1360,9 @@ public final class FilterForge {
         private Program made;
         private int length;
 
-        private Coder() {
+        private Coder(Filter read, Program program) {
+            filter = read;
+            made = program;
         }
 
         /** How many INSTRUCTIONS it has become; -1 if they would be too many. */
@@ -1670,9 +1677,9 @@ public final class FilterForge {
                 && ((parts & USES_K) != 0 || kOf(instruction) == 0);
         }
 
-        private long perform(Machine machine, Packets packets, int p) {
-            machine.begin(11, packets, p);
-            machine.set(1, packets.lengthOf(p));
+        private long perform(Machine machine, int p, int size) {
+            machine.begin(11, p);
+            machine.set(1, size);
             machine.set(10, STACK_BEHIND);
             for (int done = 0; !machine.over && done <= MOST_STEPS; done++) {
                 if (done == MOST_STEPS) {
@@ -1745,7 +1752,7 @@ public final class FilterForge {
 
         private final long[] registers = new long[32];
         private final byte[] stackRow = new byte[STACK_SIZE];
-        private Packets packets;
+        private final Packets packets;
         private int packet;
         private int shown;
         private int trap;
@@ -1754,11 +1761,11 @@ public final class FilterForge {
         private long next;
         private boolean over;
 
-        private Machine() {
+        private Machine(Packets all) {
+            packets = all;
         }
 
-        private void begin(int registerCount, Packets all, int p) {
-            packets = all;
+        private void begin(int registerCount, int p) {
             packet = p;
             shown = registerCount;
             for (int i = 0; i < registers.length; i++) {
@@ -1806,7 +1813,7 @@ public final class FilterForge {
         }
 
         private long readPacket(long from, int size) {
-            return packets == null ? -1 : packets.read(packet, from, size);
+            return packets.read(packet, from, size);
         }
 
         private boolean inStack(long from, int size) {
@@ -1814,8 +1821,7 @@ public final class FilterForge {
         }
 
         private boolean inPacket(long from, int size) {
-            return packets != null && from >= PACKET_FIRST
-                && from <= PACKET_FIRST + packets.lengthOf(packet) - size;
+            return from >= PACKET_FIRST && from <= PACKET_FIRST + packets.lengthOf(packet) - size;
         }
 
         private int byteAt(long from) {
@@ -1881,9 +1887,8 @@ public final class FilterForge {
             return i < 0 || i >= length ? 0 : row[i];
         }
 
-        private long perform(Machine machine, Packets packets, int p) {
-            int size = packets.lengthOf(p);
-            machine.begin(32, packets, p);
+        private long perform(Machine machine, int p, int size) {
+            machine.begin(32, p);
             machine.set(8, Machine.PACKET_FIRST);
             machine.set(9, size);
             machine.set(11, size);
@@ -2076,18 +2081,19 @@ public final class FilterForge {
         private static final int[] MIDDLES = {0, 0, 0, 5, 6, 7, 1, 5, 0, 7, 4, 0, 5};
 
         private final int[] starts = new int[Program.MOST + 1];
+        private final ObjectCode made;
         private Program source;
-        private ObjectCode made;
         private boolean writes;
         private int length;
 
-        private Translator() {
+        private Translator(Program program, ObjectCode object) {
+            source = program;
+            made = object;
         }
 
         /** How many WORDS it has become; -1 if they would be too many. */
-        private int turn(Program program, ObjectCode object) {
+        private int turn(Program program) {
             source = program;
-            made = object;
             writes = false;
             turnAll();
             if (length > ObjectCode.MOST) {
@@ -2569,7 +2575,8 @@ public final class FilterForge {
         private Program program;
         private int lastTold = -1;
 
-        private Inspector() {
+        private Inspector(Program first) {
+            program = first;
             for (int r = 0; r < REGISTERS; r++) {
                 now[r] = new Fact();
             }
