@@ -952,6 +952,27 @@ public final class CompileModelTest {
         due("verify", x.verify(), 0);
     }
 
+    /** Just 4000 INSTRUCTIONS, and one more. */
+    private static void longest() {
+        FilterForge x = new FilterForge();
+        String s = "port 1";
+        int size = 0;
+        while (size < 3900) {
+            s += " or port 3";
+            understood(s + " or len=0");
+            size = program().length;
+        }
+        String full = s + " or len" + "+1".repeat(4000 - size);
+        compare(x, full + "=0");
+        due("compile of 4000", x.count(1), 4000);
+        due("translate of it", x.translate() > 4000 ? 1 : 0, 1);
+        due("its last", x.instruction(3999), 149);
+        compare(x, full + "+1=0");
+        compare(x, full + "/0=0");
+        compare(x, full + "=1 or ip");
+        due("it stays", x.count(1), 4000);
+    }
+
     /** Texts that make as much as 2000 bytes can. */
     private static void largest() {
         String[] parts = {"port 1", "src portrange 1-2", "tcp", "tcp[0]=udp[0]", "(udp)", "ip[0]/0=1", "len=1+len*{2-len}",
@@ -990,6 +1011,7 @@ public final class CompileModelTest {
             }
         }
         largest();
+        longest();
         System.out.println("texts by chance: " + tally[0] + " WRONG, " + tally[1] + " too long, " + tally[2] + " good, "
             + tally[3] + " BLOCKS left out");
         System.exit(wrong == 0 ? 0 : 1);

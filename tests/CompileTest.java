@@ -72,6 +72,10 @@ public final class CompileTest {
         wrongAt("@\tip");
         wrongAt("ip @ip");
         wrongAt("@ipx");
+        wrongAt("@ipz");
+        wrongAt("ip and @xp");
+        wrongAt("@0p");
+        wrongAt("@zip");
         wrongAt("@1.2.3.4");
         wrongAt("@and");
         wrongAt("@)");
@@ -271,6 +275,11 @@ public final class CompileTest {
         due("other size", blocksLeftOut("ip and ether[12] = 8"), 0);
         due("other sign", blocksLeftOut("ip and ether[12:2] != 2048"), 0);
         due("turned", blocksLeftOut("ip and 2048 = ether[12:2]"), 0);
+        due("at len", blocksLeftOut("ether[len] = 5 or ether[len] = 5"), 0);
+        due("masked", blocksLeftOut("ether[0] & 1 = 0 or ether[0] & 1 = 0"), 0);
+        due("0 less", blocksLeftOut("- ether[0] = 1 or - ether[0] = 1"), 0);
+        due("of tcp", blocksLeftOut("tcp[0] = 1 and tcp[0] = 1"), 0);
+        due("in another", blocksLeftOut("ether[ether[0]] = 1 or ether[ether[0]] = 1"), 0);
         due("sum", blocksLeftOut("ip and ether[12+0:2] = 2048"), 0);
         due("minus", blocksLeftOut("ether[12:2] = -1 and ether[12:2] = -1"), 0);
         due("cut place", blocksLeftOut("ip and ip[4294967294:2] = 2048 or ip and ip[{4294967294}:2] = 2048"), 5);
@@ -335,7 +344,66 @@ public final class CompileTest {
         due("count(4)", x.count(4), 1);
     }
 
+    /** The bits of matches(), of a packet of 3 bytes, one of 38 (tcp, no bytes ahead of its body), and one more. */
+    private static void matched(String text, int bits) {
+        FilterForge x = new FilterForge();
+        due("compile of " + text, compile(x, text) > 0 ? 1 : 0, 1);
+        due("matches of " + text + ", no packets", x.matches(), 0);
+        feed(x, "abc");
+        x.packet();
+        feed(x, "abcdefabcdef" + (char) 8 + (char) 0 + (char) 0 + "bbbbb" + (char) 0 + (char) 0 + "b" + (char) 6
+            + "bbbbbbbbbbbbbb");
+        x.packet();
+        x.packet();
+        due("matches of " + text, x.matches(), bits);
+        int ran = 0;
+        for (int p = 0; p < 3; p++) {
+            ran |= (int) x.run(p) << p;
+        }
+        due("run of " + text, ran, bits);
+    }
+
+    private static void matching() {
+        matched("1 = 1", 7);
+        matched("not 1 = 1", 0);
+        matched("len = 3", 1);
+        matched("not len = 3", 6);
+        matched("ether[0] = 97", 3);
+        matched("not ether[0] = 97", 0);
+        matched("not ether[2:2] = 1", 2);
+        matched("ether[37] = 98", 2);
+        matched("ether[34:4] > 98", 2);
+        matched("ether[35:4] > 98", 0);
+        matched("ether[4294967295] = 1 or 1 = 1", 0);
+        matched("1 = 1 or ether[4294967295] = 1", 7);
+        matched("tcp[0] = 0", 2);
+        matched("tcp[4] = 98", 2);
+        matched("udp[0] = 0 or len = 3", 0);
+        matched("arp or len = 3", 0);
+        matched("len = 3 or tcp[4] = 98", 3);
+        matched("len / 0 = 0", 0);
+        matched("not len / 0 = 0", 0);
+        matched("len % 0 = len", 0);
+        matched("len / {0} = 0 or 1 = 1", 0);
+        matched("not len % {0} = 9", 0);
+        matched("1 = 1 or len / 0 = 0", 7);
+        matched("len / 1 = len", 7);
+        matched("len % {1} = 0", 7);
+        matched("5 / len < 6", 3);
+        matched("5 % len < 6", 3);
+        matched("2 - 3 = 4294967295", 7);
+        matched("- 1 > 1", 7);
+        matched("1 << 33 = 2", 7);
+        matched("65536 * 65536 = 0", 7);
+        matched("4294967295 + 2 >> 1 = 2147483649", 0);
+        matched("{ 4294967295 + 2 } >> 1 = 0", 7);
+        matched("ether[len - 1] = 99", 1);
+        matched("ip[4294967282] = 97", 2);
+        matched("ip[{4294967282}] = 97", 2);
+    }
+
     public static void main(String[] args) {
+        matching();
         words();
         numbers();
         addresses();

@@ -98,9 +98,16 @@ public final class FaceTest {
         due("longest", x.packet(), 2);
         due("its last", x.bytes(2, 255), 0xff00000000000000L);
         due("its last 8", x.bytes(2, 248), -1);
-        for (int i = 3; i < 16; i++) {
+        for (int i = 3; i < 15; i++) {
             due("packet", x.packet(), i);
         }
+        for (int i = 0; i < 13; i++) {
+            x.feed(-1, -1, -1, -1, 0x11223344);
+        }
+        x.end(256);
+        due("16th, of the longest", x.packet(), 15);
+        due("its last", x.bytes(15, 255), 0xff00000000000000L);
+        due("of 1 less", x.bytes(14, 0), -1);
         due("17th", x.packet(), -1);
         for (int i = 0; i < 20; i++) {
             x.feed(0, 0, 0, 0, 0);

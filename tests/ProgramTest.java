@@ -229,9 +229,13 @@ public final class ProgramTest {
         due("none comes", x.known(2, 0, 1), 0);
     }
 
-    private static void verified(String first, String second, int want, String third) {
-        FilterForge x = loaded(first, second, third);
-        due("verify of " + first + ", " + second + ", " + third, x.verify(), want);
+    private static void verified(String first, String second, int want, String... more) {
+        String[] rows = new String[2 + more.length];
+        rows[0] = first;
+        rows[1] = second;
+        System.arraycopy(more, 0, rows, 2, more.length);
+        FilterForge x = loaded(rows);
+        due("verify of " + String.join(", ", rows), x.verify(), want);
         due("again", x.verify(), want);
         due("translate", x.translate() > 0 ? 0 : -1, want == 0 ? 0 : -1);
     }
@@ -286,6 +290,59 @@ public final class ProgramTest {
         tells(x, 5, 6, -1, 0, 0, 0, 0);
     }
 
+    private static void setBytes() {
+        verified("b7 5 0 0 1", "30 0 0 0 0", 32 + 4, "bf 6 5 0 0", END);
+        verified("b7 1 0 0 1", "30 0 0 0 0", 32 + 4, "bf 6 1 0 0", END);
+        verified("b7 6 0 0 1", "30 0 0 0 0", 0, "bf 0 6 0 0", END);
+        // Through a pointer to any of eight places: all that it may be must be SET.
+        for (int left = 0; left <= 64; left++) {
+            String[] rows = new String[64 + 7];
+            for (int i = 0; i < 64; i++) {
+                rows[i] = i == left ? "b7 0 0 0 0" : "72 a 0 " + (i - 64) + " 7";
+            }
+            rows[64] = "30 0 0 0 0";
+            rows[65] = "57 0 0 0 56";
+            rows[66] = "bf 7 a 0 0";
+            rows[67] = "17 7 0 0 64";
+            rows[68] = "f 7 0 0 0";
+            rows[69] = "79 0 7 0 0";
+            rows[70] = END;
+            FilterForge x = loaded(rows);
+            due("verify but for byte " + left, x.verify(), left < 64 ? 16 * 69 + 7 : 0);
+            due("byte 0", x.known(69, 11, 0), left == 0 ? 0 : 1);
+            due("byte 63", x.known(69, 11, 63), left == 63 ? 0 : 1);
+            due("byte 64", x.known(69, 11, 64), 0);
+            due("byte -1", x.known(69, 11, -1), 0);
+        }
+    }
+
+    private static void ranges() {
+        // 1 to 3 times a third of 2^64 - 1.
+        FilterForge x = loaded("30 0 0 0 0", "57 0 0 0 3", "25 0 0 2 0", "b7 0 0 0 0", END, "b7 7 0 0 -1", "37 7 0 0 3",
+            "2f 0 7 0 0", END);
+        due("verify", x.verify(), 0);
+        tells(x, 7, 0, 1, 1, 3, ~3L, 0);
+        tells(x, 8, 0, 1, 0x5555555555555555L, -1, 0, 0);
+        // With sign, to the right: the greatest number that is not below 0, and one more.
+        x = loaded("20 0 0 0 0", "54 0 0 0 2147483647", "c4 0 0 0 1", END);
+        due("verify", x.verify(), 0);
+        tells(x, 2, 0, 1, 0, 0x7fffffffL, ~0x7fffffffL, 0);
+        tells(x, 3, 0, 1, 0, 0x3fffffffL, ~0x3fffffffL, 0);
+        x = loaded("20 0 0 0 0", "54 0 0 0 2147483647", "7 0 0 0 1", "c4 0 0 0 1", END);
+        due("verify", x.verify(), 0);
+        tells(x, 3, 0, 1, 1, 0x80000000L, ~0xffffffffL, 0);
+        tells(x, 4, 0, 1, 0, 0xffffffffL, ~0xffffffffL, 0);
+        x = loaded("7a a 0 -8 0", "79 0 a -8 0", "77 0 0 0 1", "c7 0 0 0 1", "7 0 0 0 1", END);
+        due("verify", x.verify(), 0);
+        tells(x, 2, 0, 1, 0, -1, 0, 0);
+        tells(x, 3, 0, 1, 0, Long.MAX_VALUE, Long.MIN_VALUE, 0);
+        tells(x, 4, 0, 1, 0, Long.MAX_VALUE >> 1, 3L << 62, 0);
+        x = loaded("7a a 0 -8 0", "79 0 a -8 0", "77 0 0 0 1", "7 0 0 0 1", "c7 0 0 0 1", END);
+        due("verify", x.verify(), 0);
+        tells(x, 4, 0, 1, 1, Long.MIN_VALUE, 0, 0);
+        tells(x, 5, 0, 1, 0, -1, 0, 0);
+    }
+
     private static void narrowing() {
         // Both ways of each sign, on 0 to 255, against 9; then against what leaves one way only.
         narrowed("15", 9, 9, 9, 0, 255);
@@ -326,6 +383,8 @@ public final class ProgramTest {
         reads();
         offences();
         knowing();
+        setBytes();
+        ranges();
         narrowing();
         System.exit(wrong == 0 ? 0 : 1);
     }
