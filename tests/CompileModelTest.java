@@ -830,7 +830,7 @@ public final class CompileModelTest {
             case 0: return side + "host " + a;
             case 1: return side + "net " + a + " / " + of("0", "1", "8", "24", "32", "17", "0x10");
             case 2: return side + "port " + of("0", "80", "65535", "0x50");
-            case 3: return side + "portrange " + of("1 - 5", "80 - 80", "0 - 65535", "5 - 4");
+            case 3: return side + "portrange " + of("1 - 5", "80 - 80", "0 - 65535", "0 - 0", "5 - 4");
             case 4: return of("less ", "greater ") + someNumber();
             default: return of("ether proto ", "ip proto ") + pick(300);
         }
