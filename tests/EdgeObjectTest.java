@@ -315,6 +315,10 @@ public final class EdgeObjectTest extends Edge {
             traps("6", 2, 0, 0, jal(0, 6), ECALL, ECALL);
             traps("farthest", 2, 0, 0, jal(0, 1048574), ECALL);
             traps("farthest back", 2, 0, 0, jal(0, -1048576), ECALL);
+            for (int bit = 8; bit <= 1 << 19; bit *= 2) {
+                traps("by " + bit, 2, 0, 0, jal(0, bit), ECALL);
+                traps("by -" + bit, 2, 0, 0, jal(0, -bit), ECALL);
+            }
             ended(ran(NOP, jal(0, 4), ECALL), 0, 3, 2);
             ended(ran(jal(0, 8), 0, ECALL), 0, 2, 2);
             ended(ran(jal(0, 8), ECALL, jal(0, -4)), 0, 3, 1);
@@ -338,6 +342,10 @@ public final class EdgeObjectTest extends Edge {
             traps("-4", 2, 0, 0, b(0, 0, 0, -4), ECALL);
             traps("farthest", 2, 0, 0, b(0, 0, 0, 4094), ECALL);
             traps("farthest back", 2, 0, 0, b(0, 0, 0, -4096), ECALL);
+            for (int bit = 8; bit <= 2048; bit *= 2) {
+                traps("by " + bit, 2, 0, 0, b(0, 0, 0, bit), ECALL);
+                traps("by -" + bit, 2, 0, 0, b(0, 0, 0, -bit), ECALL);
+            }
         });
         test("TRAP 2: not of a branch that does not go", x -> {
             ended(ran(b(1, 0, 0, 2), ECALL), 0, 2, 1);

@@ -133,6 +133,37 @@ public final class EdgeWordsTest extends Edge {
             wrongAt("@.");
             wrongAt("len = @1.0");
         });
+        test("Words are rows of letters a .. z, digits 0 .. 9 and dots", x -> {
+            for (char more : "az09.bym18".toCharArray()) {
+                wrongAt("@ip" + more + "x");
+                wrongAt("@arp" + more);
+                wrongAt("ip and @" + more + "ip");
+            }
+        });
+        test("a word that is not quite one of the names can't stand there", x -> {
+            String[] names = {"ip", "ip6", "arp", "tcp", "udp", "icmp", "not", "src", "dst", "host", "net", "port", "portrange",
+                "less", "greater", "ether", "len"};
+            for (String name : names) {
+                for (int i = 0; i < name.length(); i++) {
+                    wrongAt("@" + name.substring(0, i) + "q" + name.substring(i + 1) + " ip");
+                    wrongAt("@" + name.substring(0, i) + "q" + name.substring(i) + " ip");
+                }
+                wrongAt("@" + name + "q ip");
+                wrongAt("@q" + name + " ip");
+                wrongAt("len = @" + name + "q");
+            }
+            wrongAt("ip @an ip");
+            wrongAt("ip @amd ip");
+            wrongAt("ip @andd ip");
+            wrongAt("ip @o ip");
+            wrongAt("ip @oq ip");
+            wrongAt("ip @orr ip");
+            wrongAt("ether @prot 1");
+            wrongAt("ether @protq 1");
+            wrongAt("ip @protoo 1");
+            wrongAt("src @hos 1.2.3.4");
+            wrongAt("dst @por 1");
+        });
         test("the longer one counts: <= and < =", x -> {
             good("len <= 1");
             wrongAt("len < @= 1");
