@@ -195,6 +195,37 @@ public final class EdgeObjectTest extends Edge {
                 due("stack(56)", x.stack(56), 1);
             }
         });
+        test("At first: each REGISTER and each STACK byte behind one that changed all", x -> {
+            packetOf(x, 3);
+            List<Integer> words = new ArrayList<>();
+            for (int k = 1; k < 32; k++) {
+                if (k != 22) {
+                    words.add(addi(k, 0, -1));
+                }
+            }
+            for (int off = -64; off < 0; off += 8) {
+                words.add(s(3, 22, 1, off));
+            }
+            words.add(addi(22, 0, -1));
+            words.add(ECALL);
+            raw(x, row(words));
+            due("emulate(0)", x.emulate(0), -1);
+            for (int k = 0; k < 32; k++) {
+                due("register(" + k + ")", x.register(k), k == 0 ? 0 : -1);
+            }
+            for (int k = 0; k < 64; k++) {
+                due("stack(" + k + ")", x.stack(k), 255);
+            }
+            raw(x, ECALL);
+            x.emulate(0);
+            for (int k = 0; k < 32; k++) {
+                due("register(" + k + ") behind the next", x.register(k),
+                    k == 8 ? 65536 : k == 9 || k == 11 ? 3 : k == 22 ? 131136 : 0);
+            }
+            for (int k = 0; k < 64; k++) {
+                due("stack(" + k + ") behind the next", x.stack(k), 0);
+            }
+        });
         test("x0 is always 0", x -> {
             int[] words = {addi(0, 0, 5), lui(0, 5), i(0x03, 0, 0, 8, 0), i(0x1b, 0, 0, 0, 5), r(0x33, 0, 0, 0, 8, 8),
                 r(0x3b, 0, 0, 0, 8, 8), i(0x13, 1, 0, 8, 1), jal(0, 4), r(0x33, 1, 5, 0, 8, 0)};

@@ -174,6 +174,49 @@ public final class EdgeProgramTest extends Edge {
             due("register(1)", x.register(1), 4);
             due("stack(63)", x.stack(63), 1);
         });
+        test("the STACK is 0 at first in each run: each of its 64 bytes", x -> {
+            packetOf(x, 3);
+            String[] rows = new String[9];
+            for (int k = 0; k < 8; k++) {
+                rows[k] = "7a a 0 " + (-64 + 8 * k) + " -1";
+            }
+            rows[8] = END;
+            load(x, rows);
+            x.run(0);
+            for (int k = 0; k < 64; k++) {
+                due("stack(" + k + ")", x.stack(k), 255);
+            }
+            load(x, END);
+            x.run(0);
+            for (int k = 0; k < 64; k++) {
+                due("stack(" + k + ") behind the next run", x.stack(k), 0);
+            }
+            load(x, rows);
+            x.run(0);
+            raw(x, 0x73);
+            x.emulate(0);
+            for (int k = 0; k < 64; k++) {
+                due("stack(" + k + ") behind emulate", x.stack(k), 0);
+            }
+        });
+        test("the REGISTERS are as at first in each run: each of them", x -> {
+            packetOf(x, 3);
+            String[] rows = new String[12];
+            for (int r = 0; r <= 10; r++) {
+                rows[r] = "b7 " + Integer.toHexString(r) + " 0 0 -1";
+            }
+            rows[11] = END;
+            load(x, rows);
+            x.run(0);
+            for (int r = 0; r <= 10; r++) {
+                due("register(" + r + ")", x.register(r), -1);
+            }
+            load(x, END);
+            x.run(0);
+            for (int r = 0; r <= 10; r++) {
+                due("register(" + r + ") behind the next run", x.register(r), r == 1 ? 3 : r == 10 ? 131136 : 0);
+            }
+        });
         test("REGISTERS up to 10: as D and as S, in each INSTRUCTION that has them", x -> {
             answers(5, "bf a 1 0 0", "bf 0 a 0 0", END);
             for (int r = 11; r <= 15; r++) {
