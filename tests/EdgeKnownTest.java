@@ -787,6 +787,7 @@ public final class EdgeKnownTest extends Edge {
             op(7, 8, 100, 64, 64, 8, 100, 0, 0);
             op(7, 0, -1, 63, 63, 0, 1, -2, 0);
             op(7, 8, 100, 7, 7, 0, 0, -1, 0);
+            op(7, HALF, -1, 1, 1, HALF >>> 1, Long.MAX_VALUE, HALF, 0);
             op(7, 8, 100, -1, -1, 0, 0, -1, 0);
         });
         test("to the right by others: 0 to h, no BITS", x -> {
@@ -802,6 +803,8 @@ public final class EdgeKnownTest extends Edge {
                 op(12, 1, HALF, k, k, 0, MOST, 0, 0);
             }
             op(12, 8, 100, 1, 2, 0, 100, 0, 0);
+            op(12, 0, 0, 1, 2, 0, 0, -1, 0);
+            op32(12, 0, 0, 1, 2, 0, 0, -1, 0);
             op(12, 1, Long.MAX_VALUE, 1, 2, 0, Long.MAX_VALUE, 0, 0);
             op(12, 1, HALF, 1, 2, 0, MOST, 0, 0);
         });
@@ -899,6 +902,43 @@ public final class EdgeKnownTest extends Edge {
             FilterForge y = verified(0, "7a a 0 -8 0", "79 0 a -8 0", "57 0 0 0 -2", "bf 6 0 0 0", "c7 6 0 0 1");
             tells(y, 4, 6, 1, 0, -2, 1, 0);
             tells(y, 5, 6, 1, 0, MOST, 0, 0);
+        });
+        test("BITS of -: those of y, too, that are not KNOWN", x -> {
+            FilterForge y = verified(0, "30 0 0 0 0", "57 0 0 0 16", "b7 6 0 0 0", "b7 7 0 0 48", "1f 6 0 0 0", "1f 7 0 0 0");
+            tells(y, 6, 6, 1, 0, MOST, 15, 0);
+            tells(y, 6, 7, 1, 32, 48, ~16L, 32);
+        });
+        test("BITS of and, or, xor: KNOWN to be 1 in both, in one", x -> {
+            FilterForge y = verified(0, "30 0 0 0 0", "47 0 0 0 129", "bf 6 0 0 0", "bf 7 0 0 0", "a7 6 0 0 1", "57 7 0 0 3",
+                "47 0 0 0 3");
+            tells(y, 4, 0, 1, 129, 255, ~126L, 129);
+            tells(y, 7, 6, 1, 0, 255, ~126L, 128);
+            tells(y, 7, 7, 1, 0, 3, ~2L, 1);
+            tells(y, 7, 0, 1, 129, 255, ~124L, 131);
+        });
+        test("BITS of shifts to the right without sign: the highest one KNOWN to be 1", x -> {
+            FilterForge y = verified(0, "30 0 0 0 0", "b7 7 0 0 1", "67 7 0 0 63", "4f 0 7 0 0", "bf 6 0 0 0", "77 0 0 0 1",
+                "c7 6 0 0 1");
+            tells(y, 5, 6, 1, HALF, MOST, ~255L, HALF);
+            tells(y, 7, 0, 1, HALF >>> 1, Long.MAX_VALUE, ~127L, HALF >>> 1);
+            tells(y, 7, 6, 1, 0, MOST, 0, 0);
+        });
+        test("BITS of others: none, not those that were KNOWN to be 1, either", x -> {
+            String[] rows = {"27 0 0 0 1", "37 0 0 0 1", "97 0 0 0 1000", "2f 0 7 0 0", "6f 0 6 0 0", "7f 0 6 0 0", "cf 0 6 0 0",
+                "87 0 0 0 0"};
+            for (String row : rows) {
+                FilterForge y = verified(0, "bf 6 1 0 0", "bf 7 1 0 0", "30 0 0 0 0", "47 0 0 0 129", row);
+                tells(y, 4, 0, 1, 129, 255, ~126L, 129);
+                due("BITS behind " + row, y.known(5, 0, 3), 0);
+                due("ones behind " + row, y.known(5, 0, 4), 0);
+            }
+        });
+        test("what is loaded or READ keeps no BITS of what D was", x -> {
+            FilterForge y = verified(0, "7a a 0 -8 0", "b7 0 0 0 -1", "b7 6 0 0 -1", "b7 7 0 0 -1", "30 0 0 0 0", "79 6 a -8 0",
+                "71 7 a -8 0");
+            tells(y, 5, 0, 1, 0, 255, ~255L, 0);
+            tells(y, 6, 6, 1, 0, MOST, 0, 0);
+            tells(y, 7, 7, 1, 0, 255, ~255L, 0);
         });
         test("BITS of others: none", x -> {
             masked(0xf0, "27 0 0 0 1", 0, 240, 0, 0);

@@ -883,6 +883,22 @@ public final class EdgeObjectTest extends Edge {
         test("those that go: to the first WORD of where it goes", x -> becomes("over two", new int[] {addi(5, 0, 7), b(1, 18, 5, 8),
             jal(0, 4 * 5), lui(18, 1), i(0x1b, 0, 18, 18, -2048), addi(5, 0, 1), r(0x33, 0, 0, 18, 18, 5), jal(0, 4)},
             "15 6 0 2 7", "b7 6 0 0 2048", "7 6 0 0 1", "5 0 0 0 0"));
+        test("those that go: far, over many WORDS", x -> {
+            for (int over : new int[] {50, 51, 101, 102, 103, 153, 154, 204, 205, 245}) {
+                String[] rows = new String[over + 4];
+                java.util.Arrays.fill(rows, "4 6 0 0 4096");
+                rows[0] = "b7 0 0 0 0";
+                rows[1] = "b7 6 0 0 0";
+                rows[2] = "5 0 0 " + over + " 0";
+                rows[over + 3] = END;
+                load(x, rows);
+                due("translate of " + over, x.translate(), 3 + 5 * over + 1);
+                due("word 2 of " + over, x.word(2), jal(0, 4 + 20 * over));
+                due("word 3 of " + over, x.word(3), lui(5, 1));
+                due("word " + (2 + 5 * over), x.word(2 + 5 * over), i(0x13, 5, 18, 18, 32));
+                due("the last word", x.word(3 + 5 * over), ECALL);
+            }
+        });
         test("MEMORY: loading and storing, each size", x -> {
             String[] loads = {"71", "69", "61", "79"};
             int[] f3 = {4, 5, 6, 3};
