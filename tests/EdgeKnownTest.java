@@ -645,6 +645,34 @@ public final class EdgeKnownTest extends Edge {
                 verified(left < -24 ? 0 : 16 * 28 + 7, rows.toArray(new String[0]));
             }
         });
+        test("OFFENCE 7: (loading) one byte of a whole STACK is not SET", x -> {
+            for (int left = 0; left < 64; left++) {
+                List<String> rows = new ArrayList<>();
+                for (int k = 0; k < 64; k++) {
+                    rows.add(k == left ? "b7 7 0 0 0" : "72 a 0 " + (k - 64) + " 0");
+                }
+                rows.addAll(List.of("30 0 0 0 0", "57 0 0 0 63", "bf 6 a 0 0", "f 6 0 0 0", "71 7 6 -64 0"));
+                verified(16 * 68 + 7, rows.toArray(new String[0]));
+                rows.set(65, "57 0 0 0 56");
+                rows.set(68, "79 7 6 -64 0");
+                verified(16 * 68 + 7, rows.toArray(new String[0]));
+                rows.set(left, "72 a 0 " + (left - 64) + " 0");
+                verified(0, rows.toArray(new String[0]));
+            }
+        });
+        test("OFFENCE 7: (loading) the one byte that is not SET is beside the other 63", x -> {
+            for (int left = 0; left < 64; left += 63) {
+                List<String> rows = new ArrayList<>();
+                for (int k = 0; k < 64; k++) {
+                    rows.add(k == left ? "b7 7 0 0 0" : "72 a 0 " + (k - 64) + " 0");
+                }
+                rows.addAll(List.of("30 0 0 0 0", "57 0 0 0 63", "25 0 0 3 62", "bf 6 a 0 0", "f 6 0 0 0",
+                    "71 7 6 " + (left == 0 ? -63 : -64) + " 0"));
+                verified(0, rows.toArray(new String[0]));
+                rows.set(69, "71 7 6 " + (left == 0 ? -64 : -63) + " 0");
+                verified(16 * 69 + 7, rows.toArray(new String[0]));
+            }
+        });
         test("OFFENCE 7: a whole STACK from LOW to HIGH", x -> {
             List<String> rows = new ArrayList<>();
             for (int k = 0; k < 8; k++) {
